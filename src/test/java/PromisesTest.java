@@ -244,6 +244,7 @@ public final class PromisesTest {
         all.atom(0, 3, 0);
         due("9: every thing, 0", all.values(0), 255);
         due("9: every thing, 3", all.values(3), 255);
+        due("9: no atoms, the answer 0", new LeapJoin().values(0), 1);
     }
 
     private static void promise10CountWith() {
@@ -265,6 +266,7 @@ public final class PromisesTest {
         all.atom(0, 0, 1);
         all.atom(0, 2, 3);
         due("10: an eighth of all", all.countWith(3, 7), 512);
+        due("10: no atoms, the answer 0", new LeapJoin().countWith(2, 0), 1);
     }
 
     private static void promise11Holds() {
@@ -310,6 +312,7 @@ public final class PromisesTest {
         all.atom(0, 2, 3);
         due("12: every pair", all.pairs(3, 1), 64);
         due("12: every thing", all.pairs(3, 3), 8);
+        due("12: no atoms, the answer 0", new LeapJoin().pairs(0, 1), 1);
     }
 
     private static void promise13Loss() {
@@ -336,6 +339,13 @@ public final class PromisesTest {
         }
         j.atom(2, 0, 0);
         due("13: no answers to lose", j.loss(0, 3, 3), 0);
+        LeapJoin zero = withPairs(0, 0, 0, 1, 1);
+        zero.atom(0, 0, 1);
+        zero.atom(0, 2, 3);
+        due("13: the answer 0 is lost too", zero.loss(0, 0, 0), 3);
+        zero.drop();
+        zero.drop();
+        due("13: dropped atoms lose nothing", zero.loss(0, 0, 0), 0);
     }
 
     private static void promise14Partners() {
